@@ -904,6 +904,8 @@ public final class LiddedRiver {
         private static final int MINUS = 11;
         private static final int TIMES = 12;
         private static final int BY = 13;
+        private static final int LEAVES = 14;
+        /** A number is kept as this and itself, so all other codes are below. */
         private static final int NUMBER = 15;
 
         private int[] codes = new int[LAW_BYTES];
@@ -1052,7 +1054,8 @@ public final class LiddedRiver {
                 case MINUS: return a - b;
                 case TIMES: return a * b;
                 case BY: return b == 0 ? 0 : a / b;
-                default: return b == 0 ? 0 : a % b;
+                case LEAVES: return b == 0 ? 0 : a % b;
+                default: return 0;
             }
         }
     }
