@@ -1,3 +1,5 @@
+import java.lang.reflect.InvocationTargetException;
+import java.util.Arrays;
 import java.util.NoSuchElementException;
 import java.util.function.IntSupplier;
 
@@ -49,6 +51,25 @@ final class Checks {
         same("status(1) behind " + what, x.status(1), arguments + (due == 2 ? 1 : 0));
     }
 
+    /** What a call answers, or "throws." and the exception's name, whatever is thrown. */
+    static String answer(Object object, String name, Object... args) {
+        Class<?>[] ints = new Class<?>[args.length];
+        Arrays.fill(ints, int.class);
+        try {
+            return String.valueOf(object.getClass().getDeclaredMethod(name, ints).invoke(object, args));
+        } catch (InvocationTargetException e) {
+            return "throws." + e.getCause().getClass().getSimpleName();
+        } catch (ReflectiveOperationException e) {
+            throw new IllegalStateException(e);
+        }
+    }
+
+    static void same(String what, String got, String due) {
+        if (!got.equals(due)) {
+            say(what + " answered " + got + ", due is " + due);
+        }
+    }
+
     static void end() {
         if (wrong > 0) {
             System.out.println(wrong + " wrong");
@@ -88,6 +109,16 @@ final class Checks {
 
     static int book(LiddedRiver x, String text) {
         return x.book(feed(x, text));
+    }
+
+    /** A text of a kind by its name: river, law, work or book. */
+    static int text(LiddedRiver x, String kind, String text) {
+        switch (kind) {
+            case "river": return river(x, text);
+            case "law": return law(x, text);
+            case "work": return work(x, text);
+            default: return book(x, text);
+        }
     }
 
     static LiddedRiver of(String river) {

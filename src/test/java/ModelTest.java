@@ -1,4 +1,3 @@
-import java.lang.reflect.InvocationTargetException;
 import java.lang.reflect.Method;
 import java.lang.reflect.Modifier;
 import java.util.ArrayList;
@@ -256,8 +255,8 @@ public final class ModelTest {
         }
         calls++;
         String call = name + Arrays.toString(args);
-        String got = answer(LiddedRiver.class, river, name, args);
-        String due = answer(PlainRiver.class, plain, name, args);
+        String got = Checks.answer(river, name, args);
+        String due = Checks.answer(plain, name, args);
         past.add(call + " -> " + due);
         if (!got.equals(due)) {
             failed = true;
@@ -265,18 +264,6 @@ public final class ModelTest {
             for (String line : past) {
                 System.out.println("    " + line);
             }
-        }
-    }
-
-    private static String answer(Class<?> type, Object object, String name, Object[] args) {
-        Class<?>[] ints = new Class<?>[args.length];
-        Arrays.fill(ints, int.class);
-        try {
-            return String.valueOf(type.getDeclaredMethod(name, ints).invoke(object, args));
-        } catch (InvocationTargetException e) {
-            return "throws." + e.getCause().getClass().getSimpleName();
-        } catch (ReflectiveOperationException e) {
-            throw new IllegalStateException(e);
         }
     }
 }
