@@ -1021,6 +1021,23 @@ public final class LiddedRiver {
         }
 
         int value(Bed bed, int board, int hour, int fines) {
+            findFacts(bed, board, hour, fines);
+            int top = 0;
+            for (int i = 0; i < length; i++) {
+                int code = codes[i];
+                boolean joins = code >= LEAST && code < NUMBER;
+                if (joins && top >= 2) {
+                    top--;
+                    stack[top - 1] = join(code, stack[top - 1], stack[top]);
+                } else if (!joins && code >= 0 && top < stack.length) {
+                    stack[top] = code < LEAST ? facts[code] : code - NUMBER;
+                    top++;
+                }
+            }
+            return stack[0];
+        }
+
+        private void findFacts(Bed bed, int board, int hour, int fines) {
             facts[HOUR] = hour % DAY_HOURS;
             facts[1] = hour / DAY_HOURS;
             facts[2] = board;
@@ -1029,21 +1046,6 @@ public final class LiddedRiver {
             facts[5] = bed.drains[board];
             facts[6] = bed.fish[board];
             facts[FINED] = fines;
-            int top = 0;
-            for (int i = 0; i < length; i++) {
-                int code = codes[i];
-                if (code >= NUMBER) {
-                    stack[top] = code - NUMBER;
-                    top++;
-                } else if (code < LEAST) {
-                    stack[top] = facts[code];
-                    top++;
-                } else {
-                    top--;
-                    stack[top - 1] = join(code, stack[top - 1], stack[top]);
-                }
-            }
-            return stack[0];
         }
 
         private static int join(int code, int a, int b) {
