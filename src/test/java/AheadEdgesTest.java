@@ -322,6 +322,10 @@ public final class AheadEdgesTest {
         Checks.same("a fine, and none behind it", alone.ahead(240, 1), 1);
         Checks.work(alone, "again 3 [hour;];shut 0;");
         Checks.same("shut, it is fined each hour", alone.ahead(240, 1), 241);
+        LiddedRiver full = HourEdgesTest.river(SIXTEEN + "barge 9 0;", "fined");
+        Checks.work(full, "lift 15;");
+        Checks.same("of sixteen the last, once", full.ahead(240, 1), 1);
+        Checks.same("knocks at the first are no fines", full.ahead(240, 2), 240);
     }
 
     /** "HOURS go by as by hour (beyond 960, too)". */

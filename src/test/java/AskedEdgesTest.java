@@ -136,7 +136,7 @@ public final class AskedEdgesTest {
         Checks.same("those that hold", x.flood(1 + 4 + 16), 65535);
         Checks.same("two apart", x.flood(4 + 16), 255 + 512);
         Checks.same("none", x.flood(0), 0);
-        Checks.same("none counts twice", Checks.of("board 0 0 2;board 0 0 3;street 0 1 5;").flood(1), 3);
+        Checks.same("none counts twice", Checks.of("board 0 0 1;board 0 0 1;board 0 0 4;street 0 2 6;").flood(1), 7);
     }
 
     /** "the fewest BOARDS ..; of alike ones the least bits". */
