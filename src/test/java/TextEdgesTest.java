@@ -112,6 +112,12 @@ public final class TextEdgesTest {
         Checks.same("600 blanks", Checks.river(x, " ".repeat(600)), 0);
         Checks.same("600 bytes that end too early", Checks.river(x, filled("board 1 1 1", 600)), -9);
         Checks.same("at the length", x.fault(), 600);
+        for (String last : new String[] {"boar", "stree", "flow", "fish 0", "flow 1", "1"}) {
+            String text = filled("board 1 1 1;", 600 - last.length()) + last;
+            boolean isWord = last.equals("boar") || last.equals("stree") || last.equals("1");
+            Checks.same("600 bytes that end by " + last, Checks.river(x, text), -9);
+            Checks.same("its place", x.fault(), isWord ? 600 - last.length() : 600);
+        }
         Checks.argument("one more than none", x, () -> x.river(1));
         Checks.same("none of none", x.river(0), 0);
         Checks.feed(x, "flow 1;");
