@@ -11,6 +11,7 @@ public final class AheadEdgesTest {
         often();
         busiest();
         busiestOfThisDay();
+        busiestFinedAsNow();
         peak();
         lawfulFinedAsNow();
         tripsHours();
@@ -22,6 +23,7 @@ public final class AheadEdgesTest {
         tallest();
         letters();
         lettersThatFlow();
+        lettersSeenOften();
         ahead();
         aheadFinedByThen();
         beyondTheLastHour();
@@ -30,6 +32,7 @@ public final class AheadEdgesTest {
         frozenBoards();
         winterHours();
         spans();
+        spansKnocksOfTheWinters();
         spansWrap();
         Checks.end();
     }
@@ -101,6 +104,22 @@ public final class AheadEdgesTest {
         HourEdgesTest.pass(x, 1);
         Checks.law(x, "day - 1");
         Checks.same("day 2, all hours", x.busiest(), 0);
+    }
+
+    /** "fined (how often it was, by now)": the LAW is asked with the fines of now. */
+    private static void busiestFinedAsNow() {
+        LiddedRiver x = HourEdgesTest.river("board 0 0 0;board 0 0 0;", "fined * (hour - 9 - board)");
+        Checks.same("not fined, never", x.busiest(), 0);
+        Checks.work(x, "lift 1;hour;");
+        Checks.same("the second one is fined", x.busiest(), 11);
+        Checks.work(x, "lift 0;hour;");
+        Checks.same("both are", x.busiest(), 11);
+        Checks.work(x, "leave 0;leave 1;");
+        Checks.same("and stay so", x.busiest(), 11);
+        x.undo();
+        x.undo();
+        x.undo();
+        Checks.same("not fined any more", x.busiest(), 0);
     }
 
     /** "In how many HOURS from now (0 to 239) most BOARDS are open, of these the first". */
@@ -289,6 +308,22 @@ public final class AheadEdgesTest {
         Checks.same("from 0", x.letter(0, 1), 12);
     }
 
+    /** "in how many HOURS it is SEEN first, 1 at which BOARD", however often it is seen behind that. */
+    private static void lettersSeenOften() {
+        LiddedRiver always = HourEdgesTest.river("flow 3;" + SIXTEEN, "1");
+        Checks.same("always: now", always.letter(4, 0), 0);
+        Checks.same("here", always.letter(4, 1), 4);
+        Checks.same("at 4, 7, 10, 13", always.letter(4, 2), 4);
+        LiddedRiver odd = HourEdgesTest.river("flow 2;" + SIXTEEN, "hour % 2");
+        Checks.same("in odd hours: the next", odd.letter(1, 0), 1);
+        Checks.same("at the board it is at then", odd.letter(1, 1), 3);
+        Checks.same("at 3, 7, 11, 15", odd.letter(1, 2), 4);
+        HourEdgesTest.pass(odd, 1);
+        Checks.same("an hour later: now", odd.letter(1, 0), 0);
+        Checks.same("here", odd.letter(1, 1), 1);
+        Checks.same("at 1, 5, 9, 13", odd.letter(1, 2), 4);
+    }
+
     /** "In so many HOURS (0 to 240): 0 BARGES THROUGH, 1 fines in all, 2 KNOCKS in all". */
     private static void ahead() {
         LiddedRiver x = openOnly(ONE + "barge 9 0;", 239);
@@ -443,6 +478,20 @@ public final class AheadEdgesTest {
         LiddedRiver none = Checks.of(ONE);
         Checks.same("without barges all are through", none.span(1, 20, 16, 240, 2), 20);
         Checks.same("and none knocks", none.span(1, 20, 16, 240, 1), 0);
+    }
+
+    /** "1 KNOCKS in them": those ahead of the WINTERS are not counted, neither by winters nor by span. */
+    private static void spansKnocksOfTheWinters() {
+        LiddedRiver x = HourEdgesTest.river(ONE + "barge 1 0;barge 1 0;", "0");
+        HourEdgesTest.pass(x, 5);
+        Checks.same("knocks by now", x.told(6), 10);
+        Checks.same("in seven hours", x.winters(1, 3, 7, 1), 14);
+        Checks.same("the fewest", x.span(1, 20, 3, 7, 0), 14);
+        Checks.same("the most", x.span(1, 20, 3, 7, 1), 14);
+        Checks.work(x, "lift 0;hour;");
+        Checks.same("both are through", x.told(7), 2);
+        Checks.same("none knocks any more", x.span(1, 20, 16, 240, 1), 0);
+        Checks.same("by all of them all are through", x.span(1, 20, 16, 1, 2), 20);
     }
 
     /** A SEED has 32 bits: behind the greatest comes the least. */

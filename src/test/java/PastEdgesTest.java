@@ -10,6 +10,7 @@ public final class PastEdgesTest {
         worksThatAreNone();
         undoOneByOne();
         refusedStepsOfTheLatest();
+        refusedStepsBehindASeventeenth();
         threeImages();
         imageOfNothing();
         imageOfSixteenWorks();
@@ -112,6 +113,21 @@ public final class PastEdgesTest {
         Checks.same("as many as can be", x.told(9), 239);
         Checks.river(x, RIVER);
         Checks.same("behind a river", x.told(9), 0);
+    }
+
+    /** "-20 ahead of that (nothing is read ..)": what was not read is not the latest WORK. */
+    private static void refusedStepsBehindASeventeenth() {
+        LiddedRiver x = Checks.of(RIVER);
+        for (int works = 1; works <= 16; works++) {
+            Checks.work(x, "leave 0;leave 1;");
+        }
+        Checks.same("two by the sixteenth", x.told(9), 2);
+        Checks.same("a 17th", Checks.work(x, "leave 0;"), -20);
+        Checks.same("two still", x.told(9), 2);
+        x.undo();
+        Checks.same("behind undo", x.told(9), 0);
+        Checks.same("a sixteenth again", Checks.work(x, "leave 0;"), 0);
+        Checks.same("one", x.told(9), 1);
     }
 
     /** "how many there are; -1: there are 3", "how many are left; -1: there is none". */
